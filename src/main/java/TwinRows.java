@@ -533,6 +533,7 @@ public final class TwinRows {
         private int begin = 0;
         private int next = 0;
         private int value = 0;
+        private int distance = 0;
         private int fault = 0;
 
         /** How many ROWS; -1 less the place of a FAULT. */
@@ -545,7 +546,7 @@ public final class TwinRows {
             advance();
             int rows = 0;
             while (token != END && rows < MOST_TAPE) {
-                if (!readRow(rows == 0)) {
+                if (!readRow(rows == 0) || !endsRow()) {
                     return -1 - begin;
                 }
                 rows++;
@@ -554,6 +555,7 @@ public final class TwinRows {
             return rows;
         }
 
+        /** Each of the parts of a ROW goes on to the TOKEN behind it. */
         private boolean readRow(boolean isFirst) {
             if (isFirst) {
                 return isWord("cells") ? readCells() : fails(FAULT_TOKEN);
@@ -561,7 +563,10 @@ public final class TwinRows {
             if (isWord("hole")) {
                 return readHole();
             }
-            return isWord("pair") ? readPair() : fails(FAULT_TOKEN);
+            if (!isWord("pair")) {
+                return fails(FAULT_TOKEN);
+            }
+            return readPair() && (!isWord("at") || readPin());
         }
 
         private boolean readCells() {
@@ -570,7 +575,7 @@ public final class TwinRows {
             }
             draft.begin(value, 0, 0);
             advance();
-            return endsRow();
+            return true;
         }
 
         private boolean readHole() {
@@ -581,7 +586,7 @@ public final class TwinRows {
                 return fails(FAULT_TAKEN);
             }
             advance();
-            return endsRow();
+            return true;
         }
 
         private boolean readPair() {
@@ -591,23 +596,23 @@ public final class TwinRows {
             if (!readNumber(LONGEST)) {
                 return false;
             }
-            int d = value;
-            if (draft.setPair(d, true) == NONE) {
+            distance = value;
+            if (draft.setPair(distance, true) == NONE) {
                 return fails(FAULT_TAKEN);
             }
             advance();
-            return isWord("at") ? readPin(d) : endsRow();
+            return true;
         }
 
-        private boolean readPin(int d) {
-            if (!readNumber(draft.cells - d)) {
+        private boolean readPin() {
+            if (!readNumber(draft.cells - distance)) {
                 return false;
             }
-            if (draft.setPin(d, value) != 0) {
+            if (draft.setPin(distance, value) != 0) {
                 return fails(FAULT_TAKEN);
             }
             advance();
-            return endsRow();
+            return true;
         }
 
         private boolean readNumber(int most) {
@@ -661,12 +666,15 @@ public final class TwinRows {
             int letters = 0;
             int digits = 0;
             value = 0;
-            while (next < length && (isLetter(text[next]) || isDigit(text[next]))) {
-                if (isDigit(text[next])) {
+            while (next < length) {
+                int sign = text[next];
+                if (sign >= '0' && sign <= '9') {
                     digits++;
-                    value = value * 10 + text[next] - '0';
-                } else {
+                    value = value * 10 + sign - '0';
+                } else if (sign >= 'a' && sign <= 'z') {
                     letters++;
+                } else {
+                    break;
                 }
                 next++;
             }
@@ -677,14 +685,6 @@ public final class TwinRows {
             } else {
                 token = NO_TOKEN;
             }
-        }
-
-        private static boolean isLetter(int sign) {
-            return sign >= 'a' && sign <= 'z';
-        }
-
-        private static boolean isDigit(int sign) {
-            return sign >= '0' && sign <= '9';
         }
     }
 

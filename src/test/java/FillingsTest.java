@@ -20,6 +20,8 @@ public final class FillingsTest {
         promise16May();
         promise17Sure();
         promise18Extended();
+        mostCells();
+        mostFillings();
         Check.finish();
     }
 
@@ -334,5 +336,62 @@ public final class FillingsTest {
         Check.due("the frame stays", x.ways(), 6);
         Check.due("and the row", Check.seen(x), 2, 3, 2, 4, 3, 1, 1, 4);
         Check.due("and the acts", x.now(5), 1);
+    }
+
+    /** A FRAME of 18 CELLS whose HOLES are all but for the places told. */
+    private static TwinRows ofPlaces(String pairs, int... places) {
+        StringBuilder text = new StringBuilder("cells 18;");
+        for (int place = 1; place <= 18; place++) {
+            if (Arrays.binarySearch(places, place) < 0) {
+                text.append("hole ").append(place).append(';');
+            }
+        }
+        return Check.of(text + pairs);
+    }
+
+    private static void mostCells() {
+        TwinRows x = ofPlaces("pair 15;pair 1;", 3, 9, 10, 18);
+        Check.due("18 cells, distance 15", x.ways(), 1);
+        Check.due("sure", x.sure(), 1 << 14 | 1);
+        Check.due("may", x.may(15), 4);
+        Check.due("standing", x.standing(15, 3), 1);
+        Check.due("standing", x.standing(15, 18), 0);
+        Check.due("rank", Check.rankOf(x, 0, 0, 15, 0, 0, 0, 0, 0, 1, 1, 0, 0, 0, 0, 0, 0, 0, 15), 0);
+        Check.due("wrong at the last place", Check.rankOf(x, 0, 0, 15, 0, 0, 0, 0, 0, 1, 1, 0, 0, 0, 0, 0, 0, 0, 1), NONE);
+        Check.due("behind", x.behind(), NONE);
+        x.pin(15, 3);
+        Check.due("sure, pinned", x.sure(), 1 << 14 | 1);
+        x.hole(9, true);
+        Check.due("no longer", x.may(15), 0);
+        Check.due("no longer", x.standing(15, 3), 0);
+        TwinRows y = ofPlaces("pair 15;pair 1;", 2, 9, 10, 17);
+        y.row(0);
+        Check.due("the same from behind", y.behind(), 0);
+    }
+
+    private static void mostFillings() {
+        TwinRows x = Check.ofKind(0, 9);
+        Check.due("no 2657th one", Check.rowOrThrows(x, 2656), Check.THROWS);
+        int[] last = null;
+        for (int rank = 2655; rank >= 0; rank -= 45) {
+            x.row(rank);
+            int[] row = Check.seen(x);
+            Check.due("a filling", isFilling(row, 511), true);
+            Check.due("in order", last == null || Arrays.compare(row, last) < 0, true);
+            Check.due("behind", x.behind() >= 0, true);
+            for (int place = 1; place <= 18; place++) {
+                Check.due("turned", x.at(place), row[18 - place]);
+            }
+            Check.due("behind again", x.behind(), rank);
+            Check.due("its rank", Check.rankOf(x, row), rank);
+            row[17] = 0;
+            Check.due("a wrong last place", Check.rankOf(x, row), NONE);
+            last = Check.seen(x);
+        }
+        int all = 0;
+        for (int place = 1; place <= 18; place++) {
+            all += x.standing(9, place);
+        }
+        Check.due("9 stands somewhere in each", all, 2656);
     }
 }

@@ -353,13 +353,15 @@ public final class FrameTest {
         x.extended(3, 6);
         Check.due("none of these is an act", x.undo(), NONE);
         TwinRows y = Check.of("cells 1;");
-        int seed = 0;
-        while (y.drawn(1, seed) != 0) {
-            seed++;
+        int acts = 0;
+        for (int seed = 0; seed < 40; seed++) {
+            int done = y.drawn(1, seed);
+            acts = Math.min(acts + done, 8);
+            Check.due("drawn is an act if it does something", y.now(5), acts);
+            if (seed % 4 == 3 && y.undo() != NONE) {
+                acts--;
+            }
         }
-        int acts = y.now(5);
-        y.drawn(1, seed);
-        Check.due("drawn that does nothing is no act", y.now(5), Math.min(acts, 8));
     }
 
     private static void promise26And27Images() {

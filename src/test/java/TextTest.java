@@ -157,6 +157,12 @@ public final class TextTest {
         Check.dueFault("cells 008;", 6, 1);
         Check.dueFault("cells 100;", 6, 1);
         Check.dueFault("cells 8a;", 6, 1);
+        Check.dueFault("cells 8z;", 6, 1);
+        Check.dueFault("cells z9;", 6, 1);
+        Check.dueFault("cells 8{;", 7, 1);
+        Check.dueFault("cells 8`;", 7, 1);
+        Check.dueFault("cells 8/;", 7, 1);
+        Check.dueFault("cells 8:;", 7, 1);
         Check.dueFault("cells -8;", 6, 1);
         Check.dueFault("cells 8;;", 8, 1);
         Check.dueFault("cells 8 8;", 8, 1);
