@@ -832,7 +832,7 @@ public final class TwinRows {
         private int rankOfNumber(long number) {
             int low = 0;
             int high = Math.min(count, numbers.length) - 1;
-            while (low <= high) {
+            for (int halving = 0; halving <= MOST_FILLINGS && low <= high; halving++) {
                 int middle = (low + high) / 2;
                 if (numbers[middle] == number) {
                     return middle;

@@ -8,17 +8,27 @@ final class Check {
 
     private static int wrong = 0;
     private static int asked = 0;
+    private static String about = "";
 
     private Check() {
+    }
+
+    /** What the answers that follow are about: it is told ahead of each wrong one. */
+    static void about(String what) {
+        about = what + "\n    ";
     }
 
     static void due(String call, long got, long want) {
         asked++;
         if (got != want) {
-            wrong++;
-            if (wrong <= 40) {
-                System.out.println(call + " answered " + got + ", due is " + want);
-            }
+            fail(call + " answered " + got + ", due is " + want);
+        }
+    }
+
+    static void fail(String what) {
+        wrong++;
+        if (wrong <= 40) {
+            System.out.println(about + what);
         }
     }
 
@@ -29,8 +39,7 @@ final class Check {
     static void due(String call, int[] got, int... want) {
         asked++;
         if (!Arrays.equals(got, want)) {
-            wrong++;
-            System.out.println(call + " answered " + Arrays.toString(got) + ", due is " + Arrays.toString(want));
+            fail(call + " answered " + Arrays.toString(got) + ", due is " + Arrays.toString(want));
         }
     }
 
