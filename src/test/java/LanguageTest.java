@@ -1,4 +1,6 @@
 import java.io.IOException;
+import java.lang.reflect.Constructor;
+import java.lang.reflect.Executable;
 import java.lang.reflect.Field;
 import java.lang.reflect.Method;
 import java.lang.reflect.Modifier;
@@ -13,55 +15,80 @@ import java.util.regex.Pattern;
 
 /** The face of the class, and what can be seen of the rules of LANGUAGE.md from the class and its text. */
 public final class LanguageTest {
-    private static final String[] FACE = {
-        "int feed(int, int, int, int, int)", "boolean end(int)", "int frame()", "int fault()", "int kind(int, int)",
-        "int now(int)", "int pinned(int)", "int ways()", "int row(int)", "int at(int)", "int first(int)", "int rank()",
-        "int behind()", "int standing(int, int)", "int may(int)", "int sure()", "int extended(int, int)",
-        "int made(int)", "int third(int, int)", "int hole(int, boolean)", "int pair(int, boolean)", "int pin(int, int)",
-        "int drawn(int, int)", "int undo()", "boolean image(int)", "boolean restore(int)"
-    };
     private static final String[] FORBIDDEN = {
         "->", "::", "\\bcatch\\b", "\\btry\\b", "\\bfinally\\b", "\\bsynchronized\\b", "\\bassert\\b", "\\binstanceof\\b",
         "Exact\\(", "System\\.(?!arraycopy)", "\\bpackage\\b", "\\bRandom\\b", "\\bThread\\b", "\\bvar\\b", "\" \\+", "\\+ \"",
-        "static \\{", "\\bdouble\\b", "\\bfloat\\b", "\\bprotected\\b"
+        "static \\{", "\\bdouble\\b", "\\bfloat\\b", "\\bprotected\\b", "Arrays\\.(?!copyOf|copyOfRange|fill)",
+        "(Math|Integer|Long)\\.(?!compare|max|min|abs|bitCount|floorDiv|floorMod)", "\\.(equals|hashCode|toString|getMessage)\\(",
+        "\\[\\]\\[\\]\\[\\]", "throw new (?!NoSuchElementException\\(\\))"
     };
 
-    public static void main(String[] args) throws IOException {
-        face();
-        members();
+    public static void main(String[] args) throws IOException, IllegalAccessException {
+        List<String> face = documentFace();
+        face(face);
+        members(face);
         String text = Files.readString(Path.of("src/main/java/TwinRows.java"));
         forbidden(text);
         sizes(text);
         Check.finish();
     }
 
-    private static String told(Method m) {
-        List<String> types = new ArrayList<>();
-        for (Class<?> type : m.getParameterTypes()) {
-            types.add(type.getSimpleName());
+    /** The members that the document's face shows, without the names of parameters. */
+    private static List<String> documentFace() throws IOException {
+        String text = Files.readString(Path.of("../shared/DOC.md"));
+        Matcher block = Pattern.compile("(?s)public final class TwinRows \\{\n(.*?)\n\\}\n").matcher(text);
+        List<String> face = new ArrayList<>();
+        if (!block.find()) {
+            Check.fail("the document shows no face");
+            return face;
         }
-        return m.getReturnType().getSimpleName() + " " + m.getName() + "(" + String.join(", ", types) + ")";
+        for (String line : block.group(1).split("\n")) {
+            face.add(line.trim().replaceAll("(int|boolean) \\w+(?=[,)])", "$1"));
+        }
+        return face;
     }
 
-    private static void face() {
+    private static String told(Executable member, String kindAndName) {
+        List<String> types = new ArrayList<>();
+        for (Class<?> type : member.getParameterTypes()) {
+            types.add(type.getSimpleName());
+        }
+        String thrown = "";
+        for (Class<?> type : member.getExceptionTypes()) {
+            thrown += " throws " + type.getSimpleName();
+        }
+        return Modifier.toString(member.getModifiers()) + " " + kindAndName + "(" + String.join(", ", types) + ")" + thrown + ";";
+    }
+
+    /** All that is not private is what the document shows, and nothing else. */
+    private static void face(List<String> document) throws IllegalAccessException {
         TreeSet<String> seen = new TreeSet<>();
         for (Method m : TwinRows.class.getDeclaredMethods()) {
             if (!Modifier.isPrivate(m.getModifiers())) {
-                seen.add(told(m));
-                Check.due("public, not static: " + m, m.getModifiers(), Modifier.PUBLIC);
+                seen.add(told(m, m.getReturnType().getSimpleName() + " " + m.getName()));
             }
         }
-        TreeSet<String> due = new TreeSet<>(Arrays.asList(FACE));
-        Check.due("the face: " + seen, seen.equals(due), true);
+        for (Constructor<?> c : TwinRows.class.getDeclaredConstructors()) {
+            seen.add(told(c, "TwinRows"));
+        }
+        for (Field f : TwinRows.class.getDeclaredFields()) {
+            if (!Modifier.isPrivate(f.getModifiers())) {
+                seen.add(Modifier.toString(f.getModifiers()) + " " + f.getType() + " " + f.getName() + " = " + f.get(null) + ";");
+            }
+        }
+        TreeSet<String> due = new TreeSet<>(document);
+        Check.due("the face: " + seen + ", of the document: " + due, seen.equals(due), true);
+        Check.due("members of the face", document.size(), 28);
         Check.due("the class", TwinRows.class.getModifiers(), Modifier.PUBLIC | Modifier.FINAL);
-        Check.due("constructors", TwinRows.class.getDeclaredConstructors().length, 1);
-        Check.due("NONE", TwinRows.NONE, -1);
     }
 
-    private static void members() {
+    private static void members(List<String> face) {
         TreeSet<String> names = new TreeSet<>();
-        for (String method : FACE) {
-            names.add(method.substring(method.indexOf(' ') + 1, method.indexOf('(')));
+        for (String member : face) {
+            Matcher name = Pattern.compile("(\\w+)\\(").matcher(member);
+            if (name.find()) {
+                names.add(name.group(1));
+            }
         }
         List<Class<?>> classes = new ArrayList<>(Arrays.asList(TwinRows.class.getDeclaredClasses()));
         for (Class<?> c : classes) {
